@@ -1,8 +1,7 @@
 import java.util.Arrays;
-import java.util.Random;
 
 /**
- * Random runs (the same each time) on the class and on the model of the document; every answer
+ * Mixed runs (the same each time) on the class and on the model of the document; every answer
  * must be alike, and all that can be asked without a change must be alike behind each run.
  */
 public final class ModelTest {
@@ -10,14 +9,14 @@ public final class ModelTest {
         -2147483648, -1000000000, -101, -8, -2, -1, 7, 8, 9, 10, 21, 22, 31, 61, 100, 101, 1000, 2147483647
     };
     private final Check check = new Check();
-    private final Random random;
+    private final Numbers random;
     private HiredByLonging x;
     private ModelFace model;
     private int run;
     private int calls;
 
     private ModelTest(long seed) {
-        random = new Random(seed);
+        random = new Numbers(seed);
     }
 
     public static void main(String[] args) {
@@ -254,5 +253,25 @@ public final class ModelTest {
         both(13);
         both(20, 0);
         both(22, -1, random.nextInt(21));
+    }
+
+    /** Numbers one behind the other, mixed by shifts alone: the same each time. */
+    private static final class Numbers {
+        private long state;
+
+        Numbers(long seed) {
+            state = seed;
+        }
+
+        int nextInt() {
+            state ^= state << 13;
+            state ^= state >>> 7;
+            state ^= state << 17;
+            return (int) (state >>> 21);
+        }
+
+        int nextInt(int n) {
+            return (nextInt() >>> 1) % n;
+        }
     }
 }

@@ -88,6 +88,8 @@ public final class PromisesTest {
         due("p2 a hundred bytes", Check.land(new HiredByLonging(), most), 18);
         due("p2 a hundred bytes, and one lacks", Check.land(new HiredByLonging(),
                 most.substring(0, 96) + "l050"), -1100);
+        due("p2 a hundred bytes, and digits lack", Check.land(new HiredByLonging(),
+                most.substring(0, 96) + "h030"), -1100);
         due("p2 999 days", Check.land(new HiredByLonging(),
                 "h000000;" + "d60;".repeat(16) + "d39;r000;"), 19);
     }

@@ -34,6 +34,12 @@ final class Check {
         }
     }
 
+    /** What element answers, or 5000000000 and 1 or 2 more as above for what it throws. */
+    static long elementOrThrown(HiredByLonging x, int d, int i) {
+        int thrown = thrownByElement(x, d, i);
+        return thrown == 0 ? x.element(d, i) : 5000000000L + thrown;
+    }
+
     static void write(HiredByLonging x, int d, String text) {
         x.row(d, 0, text.length());
         for (int i = 0; i < text.length(); i++) {

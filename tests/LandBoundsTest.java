@@ -368,6 +368,10 @@ public final class LandBoundsTest {
         ride(longing(0, 0, 20, 76), 1, 1, 77);
         // 72 and 1 at 19, a mile off, and half of 73 then.
         ride(longing(0, 20, 0, 72), 20, 2, 36);
+        // A mile to its goal, though it walks two: both of a mare's are 10.
+        ride(longing(6, 10, 9, 0), 11, 2, 2);
+        ride(longing(6, 10, 11, 0), 9, 2, 2);
+        ride(longing(6, 10, 9, 99), 11, 2, 51);
         // A day to the goal; from there a mile a day.
         ride(longing(0, 5, 10, 99), 4, 2, 50);
         ride(longing(0, 5, 10, 99), 0, 6, 55);

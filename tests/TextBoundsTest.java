@@ -154,6 +154,8 @@ public final class TextBoundsTest {
         fault("d01;".repeat(24) + "d01", -1099);
         fault("d01;".repeat(24) + "d011", -1099);
         fault("d01;".repeat(24) + "h361", -1100);
+        fault("d01;".repeat(24) + "l000", -1100);
+        fault("d01;".repeat(24) + "r000", -1100);
         fault("d01;".repeat(24) + "d1", -1098);
         fault("d01;".repeat(24) + "d61;", -2096);
         fault("d01;".repeat(24) + "d61:", -1099);

@@ -147,6 +147,13 @@ public final class MindBoundsTest {
         // Waiting a day first it would be there in 3 days together.
         due("no waiting", of("h200000;").chain(0, 15, 0), 4);
         due("waiting first", of("h200000;").soonest(0, 15, 1), 3);
+        // The mare is at 1, 3, 6, 10, where her goal turns to 0, and on foot at 12 and 13. Left at 9
+        // and taken once more she would go 5 miles on the fifth day.
+        HiredByLonging mare = of("h600000;");
+        due("each at most once, the first", mare.chain(0, 13, 0), 6);
+        due("as long as her ride", mare.howLong(0, 13), 6);
+        due("each at most once, the second", of("h000000;h600001;").chain(0, 13, 0), 6);
+        due("the first of the two", of("h000000;h600001;").chain(0, 13, 1), 0);
         s.says(12, "RIDES it to any other YARD");
         // The other one is at 0, off the way: a day there, and one from there to 20.
         due("back, to go on faster", of("h000001;h200000;l199;").chain(1, 20, 0), 2);

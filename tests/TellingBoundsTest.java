@@ -194,6 +194,10 @@ public final class TellingBoundsTest {
         due("alike, there, turned", of("h100008;h100008;").two(1, 0, 8), 1);
         due("a day behind", of("h100000;h100001;").two(0, 1, 9), -4);
         s.says(27, "the first pair (10 the one's and the other's) by which neither has more by another choice alone; -4.");
+        // The one is there in 4 or 7 days, the other in 6 or 11, or in 2 or 6: of each pair one has
+        // more by his other choice.
+        due("none of the four pairs, on foot", of("h030012;h030000;").two(0, 1, 6), -4);
+        due("none of the four pairs", of("h030012;h230000;").two(0, 1, 6), -4);
         due("one and none", of("h000010;h502003;o20;l012;").two(0, 1, 5), 10);
         due("none and one", of("h000010;h502003;o20;l012;").two(1, 0, 5), 1);
     }

@@ -205,7 +205,7 @@ public final class MindBoundsTest {
     }
 
     private static void hurry() {
-        s.says(13, "the HORSE that is at a YARD v first, each on its own from now, of several the least; -4; its DAYS");
+        s.says(13, "HURRY: the HORSE that is at a YARD v first, each on its own from now, of several the least; -4; its DAYS");
         due("none", new HiredByLonging().hurry(0, 0), -4);
         due("none, days", new HiredByLonging().hurry(20, 1), -4);
         HiredByLonging x = of("h000010;h100010;h100010;");
@@ -368,7 +368,7 @@ public final class MindBoundsTest {
     }
 
     private static void fees() {
-        s.says(24, "its COST (as on a SHELF) for each DAY");
+        s.says(24, "FEES of one for a RIDE to a YARD: its COST (as on a SHELF) for each DAY");
         int[] costs = {2, 1, 11, 4, 7, 1, 13, 4};
         for (int kind = 0; kind < 8; kind++) {
             HiredByLonging x = of("h" + kind + "91010;");

@@ -38,7 +38,7 @@ public final class RefusalsTest {
 
     /** Shelf 0 holds nothing on the object with some. */
     private static void nothingHeld() {
-        String words = "-11 nothing is held where something is wanted";
+        String words = "Their REFUSALS: -11 nothing is held where something is wanted;";
         s.says(2, words);
         no(SOME, "land(0)", x -> x.land(0), -11);
         no(EMPTY, "land(7) of a new object", x -> x.land(7), -11);
@@ -69,7 +69,7 @@ public final class RefusalsTest {
 
     /** Shelves 1 and 7 hold a kind there, 2, 5 and 6 bytes, 3 shorts, 4 ints. */
     private static void otherKind() {
-        String words = "-12 it is of another kind";
+        String words = "-12 it is of another kind;";
         s.says(2, words);
         no(SOME, "land(1) of a kind", x -> x.land(1), -12);
         no(SOME, "land(3) of shorts", x -> x.land(3), -12);
@@ -100,10 +100,13 @@ public final class RefusalsTest {
         no(SOME, "copy of ints to bytes", x -> x.copy(4, 0, 5, 0, 0), -12);
         no(SOME, "copy of ints to shorts", x -> x.copy(4, 0, 3, 0, 1), -12);
         s.says(41, words);
-        s.says(42, words);
         for (int d = 2; d < 7; d++) {
             int row = d;
             no(SOME, "cost(" + d + ") of a row", x -> x.cost(row), -12);
+        }
+        s.says(42, words);
+        for (int d = 2; d < 7; d++) {
+            int row = d;
             no(SOME, "toss(" + d + ") of a row", x -> x.toss(row), -12);
         }
     }

@@ -306,7 +306,7 @@ public final class ShelfBoundsTest {
     }
 
     private static void costs() {
-        s.says(41, "HORSE 2; CONTENT 1; BLIND FIGURE more than a HORSE's; TWO twice a HORSE's; DROWNED 7; FOAL 1 less than a HORSE's; MARE FIGURE more than TWO; GELDING 3 more than a CONTENT one's.");
+        s.says(41, "COST of the one on SHELF d: HORSE 2; CONTENT 1; BLIND FIGURE more than a HORSE's; TWO twice a HORSE's; DROWNED 7; FOAL 1 less than a HORSE's; MARE FIGURE more than TWO; GELDING 3 more than a CONTENT one's.");
         int[] least = {2, 1, 2, 4, 7, 1, 4, 4};
         for (int k = 0; k < 8; k++) {
             for (int figure = 0; figure < 10; figure++) {
@@ -317,7 +317,7 @@ public final class ShelfBoundsTest {
     }
 
     private static void tosses() {
-        s.says(42, "its FIGURE; of TWO 100 more (of MARES, too); of MARES 200 plus their COST, in place of all that (FIGURE, too).");
+        s.says(42, "The FAILURE of the one on SHELF d is thrown, and caught: its FIGURE; of TWO 100 more (of MARES, too); of MARES 200 plus their COST, in place of all that (FIGURE, too).");
         for (int figure = 0; figure < 10; figure++) {
             boolean none = figure == 0;
             due("horse, figure " + figure, kind(0, figure).toss(5), none ? -15 : figure);

@@ -64,7 +64,7 @@ public final class TellingBoundsTest {
     }
 
     private static void homesByPace() {
-        s.says(25, "a ROW tells AT of one, taken on a RIDE to a YARD, as each DAY of it begins, the first now");
+        s.says(25, "HOMES: a ROW tells AT of one, taken on a RIDE to a YARD, as each DAY of it begins, the first now");
         // Pace 2 and walk 1: two miles only towards a home that is two miles off or more.
         HiredByLonging x = of("h000010;l004;");
         homes(x, 0, 511, 2, 10, 8);
@@ -144,7 +144,7 @@ public final class TellingBoundsTest {
     }
 
     private static void kinds() {
-        s.says(26, "the ROW likewise: KINDS (bits) by which it is so");
+        s.says(26, "WHAT IT IS: the ROW likewise: KINDS (bits) by which it is so");
         // To 0 from 10, home 0, oats in 20: pace 2 of horses, two of one goal, drowned ones, mares.
         whatIs("h000010;l004;o20;", 0, 91, 1023, 10, 8);
         whatIs("h000010;l004;o20;", 0, 128, 0, 10, 7);
@@ -182,7 +182,7 @@ public final class TellingBoundsTest {
     }
 
     private static void two() {
-        s.says(27, "each RIDES now (0) or waits 5 DAYS first (1)");
+        s.says(27, "TWO couriers, each with a HORSE of his own, to one YARD: each RIDES now (0) or waits 5 DAYS first (1)");
         // The one is there. The other comes in 4 days: ahead of 5; in 5: not.
         due("4 days behind", of("h100008;h100000;").two(0, 1, 8), -4);
         due("5 days behind", of("h100009;h100000;").two(0, 1, 9), 11);
@@ -223,7 +223,7 @@ public final class TellingBoundsTest {
     }
 
     private static void stormDays() {
-        s.says(28, "each of n DAYS (0 .. 7), by itself");
+        s.says(28, "STORM: each of n DAYS (0 .. 7), by itself");
         storm(near(3), 1, 0, 2, 1, 1);
         storm(near(3), 2, 0, 20, 0, 1);
         storm(near(4), 2, 0, 20, 1, 1);
@@ -326,7 +326,7 @@ public final class TellingBoundsTest {
     }
 
     private static void forgedPairs() {
-        s.says(30, "no such HORSE, YARD, too");
+        s.says(30, "no such HORSE, YARD, too); -4.");
         HiredByLonging x = of("h000003;h000020;h000005;");
         forged(x, 0, -1, 5);
         forged(x, 0, 3, 5);
@@ -387,7 +387,7 @@ public final class TellingBoundsTest {
     }
 
     private static void judgedSkipped() {
-        s.says(31, "(skipped likewise)");
+        s.says(31, "(skipped likewise); -4.");
         for (int sort = 0; sort < 3; sort++) {
             judged(near(0), -4, sort, LEAST[sort]);
             judged(near(0), -4, sort, LEAST[sort], 1, LEAST[sort], 3);
@@ -407,7 +407,7 @@ public final class TellingBoundsTest {
     }
 
     private static void landsBounds() {
-        s.says(32, "n (1 .. 20), each from now: AT of each, by numbers, a DRAW below 21, then 10 DAYS");
+        s.says(32, "LANDS with a seed z: n (1 .. 20), each from now: AT of each, by numbers, a DRAW below 21, then 10 DAYS");
         // By 1 the draws are 17, 4, 12, 1, 13, 20, 15, 6, 0: of home 0 it longs 40, 10, 30, 10, 30,
         // 50, 40, 20 and 0 behind ten days.
         int[] sums = {40, 50, 80, 90, 120, 170, 210, 230, 230};
@@ -420,7 +420,7 @@ public final class TellingBoundsTest {
     }
 
     private static void draws() {
-        s.says(32, "z becomes z times 1103515245 plus 12345 (an int)");
+        s.says(32, "A DRAW below n: z becomes z times 1103515245 plus 12345 (an int)");
         // By 2147483647 and by -1 the draws are 11, 20, 13, 6, 19; by 0 and by -2147483648 0, 6, 13.
         lands("h000010;", 1, Made.MAX, 30, 0);
         lands("h000010;", 5, Made.MAX, 30 + 50 + 30 + 20 + 40, 0);

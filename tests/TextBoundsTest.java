@@ -93,7 +93,7 @@ public final class TextBoundsTest {
     }
 
     private static void firstByte() {
-        s.says(2, "kind 1 the place of the first byte with which no LAND can go on");
+        s.says(2, "FAULT: kind 1 the place of the first byte with which no LAND can go on");
         for (String one : STATEMENTS) {
             int end = one.length() - 1;
             badBytes(one, 0, NO_LETTERS);
@@ -195,7 +195,7 @@ public final class TextBoundsTest {
     }
 
     private static void ofSuchHorses() {
-        s.says(2, "(a number out of range, no such HORSE, DAY above 999 then, no room)");
+        s.says(2, "(a number out of range, no such HORSE, DAY above 999 then, no room): -2000 less the place.");
         faultOf(Made::empty, "r000;", -2000);
         faultOf(Made::empty, "l000;", -2000);
         for (int h = 1; h < 10; h++) {
@@ -301,7 +301,7 @@ public final class TextBoundsTest {
     }
 
     private static void oneBehindTheOther() {
-        s.says(2, "STATEMENTS are tried one behind the other, each on what those ahead of it made");
+        s.says(2, "STATEMENTS are tried one behind the other, each on what those ahead of it made, and the first that can't be done so is told (kind 2).");
         faultOf(Made::empty, "r000;h000000;", -2000);
         s.due("a horse made ahead of its ride", Check.land(Made.empty(), "h000007;r007;l012;"), 3);
         // A foal at 4 pines by where the oats are as the day goes by: 1, and 16 miles off 4.
